@@ -14,6 +14,8 @@ public final class OreBlocks {
     private static final int MAX_LOOKED = 4;
     private static final int MAX_FAR = 2 * (SIDE - 1);
     private static final int MAX_STEP = 7;
+    private static final int ONE_PLACE = 1;
+    private static final int BLOCK_PLACES = 4;
     private static final int MAX_BOOK = 20;
     private static final int MAX_UNDO = 16;
     private static final int IMAGES = 2;
@@ -78,7 +80,7 @@ public final class OreBlocks {
         if (what == 0) {
             return ground.sampleAt(x, y);
         }
-        estimate.weighPlace(x, y, NONE);
+        estimate.weigh(x, y, ONE_PLACE, NONE);
         switch (what) {
             case 1: return estimate.count;
             case 2: return estimate.setOfLooked();
@@ -100,7 +102,7 @@ public final class OreBlocks {
         if (!isPlace(x, y) || !isWithin(what, 0, 5)) {
             return BEYOND;
         }
-        estimate.weighPlace(x, y, NONE);
+        estimate.weigh(x, y, ONE_PLACE, NONE);
         return estimate.exists() ? estimate.tellPart(what) : NOTHING;
     }
 
@@ -108,7 +110,7 @@ public final class OreBlocks {
         if (!isPlace(x, y) || !isWithin(i, 0, MAX_LOOKED - 1) || !isWithin(what, 0, 1)) {
             return BEYOND;
         }
-        estimate.weighPlace(x, y, NONE);
+        estimate.weigh(x, y, ONE_PLACE, NONE);
         if (!estimate.exists() || i >= estimate.count) {
             return NOTHING;
         }
@@ -119,7 +121,7 @@ public final class OreBlocks {
         if (!isWithin(x, 0, SIDE - 2) || !isWithin(y, 0, SIDE - 2) || !isWithin(what, 0, 3)) {
             return BEYOND;
         }
-        estimate.weighBlock(x, y);
+        estimate.weigh(x, y, BLOCK_PLACES, NONE);
         return estimate.exists() ? estimate.tellPart(what) : NOTHING;
     }
 
@@ -320,7 +322,7 @@ public final class OreBlocks {
     // ---- left out
 
     private void weighLeftOut(int i) {
-        estimate.weighPlace(ground.xs[i], ground.ys[i], i);
+        estimate.weigh(ground.xs[i], ground.ys[i], ONE_PLACE, i);
     }
 
     private long errorAbove(int i) {
@@ -385,7 +387,7 @@ public final class OreBlocks {
         if (ground.sampleAt(x, y) != NONE) {
             return false;
         }
-        estimate.weighPlace(x, y, NONE);
+        estimate.weigh(x, y, ONE_PLACE, NONE);
         return estimate.exists();
     }
 
@@ -408,8 +410,8 @@ public final class OreBlocks {
 
     private int firstWrong() {
         for (int i = 0; i < book.entries; i++) {
-            estimate.weighPlace(book.xs[i], book.ys[i], NONE);
-            // A long, for weights far from sound can carry a GRADE beyond every int.
+            estimate.weigh(book.xs[i], book.ys[i], ONE_PLACE, NONE);
+            // A long, for nothing keeps a GRADE within the bounds of an int.
             long now = estimate.exists() ? estimate.gradeCut() : NONE;
             if (now != book.values[i]) {
                 return i;
@@ -516,10 +518,6 @@ public final class OreBlocks {
             return metric == 0 ? inX + inY : Math.max(inX, inY);
         }
 
-        int farToPlace(int i, int x, int y) {
-            return far(xs[i] - x, ys[i] - y);
-        }
-
         int unlikeOf(int h) {
             if (h == 0) {
                 return 0;
@@ -529,12 +527,8 @@ public final class OreBlocks {
             return nugget + steepPiece + flatPiece;
         }
 
-        int unlikeToPlace(int i, int x, int y) {
-            return unlikeOf(farToPlace(i, x, y));
-        }
-
-        int unlikeOfSamples(int i, int j) {
-            return unlikeToPlace(i, xs[j], ys[j]);
+        int unlikeApart(int apartX, int apartY) {
+            return unlikeOf(far(apartX, apartY));
         }
 
         int quarterOf(int i, int x, int y) {
@@ -554,6 +548,7 @@ public final class OreBlocks {
      * ones, but for the sign, which turns with each k: so SOUND asks that each is above 0.
      */
     private static final class Estimate {
+        private static final int QUARTERS = 4;
         private static final int ROWS = MAX_LOOKED - 1;
 
         private final Ground ground;
@@ -564,13 +559,16 @@ public final class OreBlocks {
         final long[] parts = new long[MAX_LOOKED];
 
         private final int[] fars = new int[MAX_SAMPLES];
-        private final int[] takenInQuarter = new int[4];
+        private final int[] takenInQuarter = new int[QUARTERS];
+        /** UNLIKE of each two samples looked at. */
+        private final int[] between = new int[MAX_LOOKED * MAX_LOOKED];
         /** UNLIKE of each sample looked at and all places guessed for, summed. */
-        private final int[] unlikes = new int[MAX_LOOKED];
+        private final int[] toPlaces = new int[MAX_LOOKED];
+        /** UNLIKE of each place guessed for and each of them, summed. */
+        private int withinPlaces;
         private final long[] table = new long[ROWS * ROWS];
         private final long[] wanted = new long[ROWS];
-        private int unlikeWithin;
-        /** How many places are guessed for at once: 1, or 4 for a block. */
+        /** How many places are guessed for at once: ONE_PLACE or BLOCK_PLACES. */
         private int places;
         /** The determinant; 0 if there is no GUESS, else made to be above 0. */
         private long whole;
@@ -579,16 +577,25 @@ public final class OreBlocks {
             this.ground = ground;
         }
 
-        void weighPlace(int x, int y, int without) {
-            places = 1;
+        /** Makes the guess as if the sample without (NONE: all are there) were not there. */
+        void weigh(int x, int y, int howManyPlaces, int without) {
+            places = howManyPlaces;
             lookFrom(x, y, without);
-            weigh(x, y);
-        }
-
-        void weighBlock(int x, int y) {
-            places = 4;
-            lookFrom(x, y, NONE);
-            weigh(x, y);
+            if (count == 0) {
+                whole = 0;
+                sound = true;
+                return;
+            }
+            fillBetween();
+            sumToPlaces(x, y);
+            sumWithinPlaces();
+            fillTable();
+            whole = table[0] * cofactor(0, 0) + table[1] * cofactor(0, 1) + table[2] * cofactor(0, 2);
+            sound = table[0] > 0 && cofactor(2, 2) > 0 && whole > 0;
+            share();
+            if (whole < 0) {
+                turnSigns();
+            }
         }
 
         boolean exists() {
@@ -599,11 +606,11 @@ public final class OreBlocks {
 
         void lookFrom(int x, int y, int without) {
             count = 0;
-            for (int quarter = 0; quarter < 4; quarter++) {
+            for (int quarter = 0; quarter < QUARTERS; quarter++) {
                 takenInQuarter[quarter] = 0;
             }
             for (int i = 0; i < ground.samples; i++) {
-                fars[i] = ground.farToPlace(i, x, y);
+                fars[i] = ground.far(ground.xs[i] - x, ground.ys[i] - y);
             }
             int passed = without == NONE ? 0 : 1 << without;
             for (int turn = 0; turn < ground.samples && count < ground.most; turn++) {
@@ -644,37 +651,34 @@ public final class OreBlocks {
             return set;
         }
 
-        // ---- weights
+        // ---- how unlike they are
 
-        private void weigh(int x, int y) {
-            if (count == 0) {
-                whole = 0;
-                sound = true;
-                return;
-            }
-            sumUnlikes(x, y);
-            fillTable();
-            whole = table[0] * cofactor(0, 0) + table[1] * cofactor(0, 1) + table[2] * cofactor(0, 2);
-            sound = table[0] > 0 && cofactor(2, 2) > 0 && whole > 0;
-            share();
-            if (whole < 0) {
-                turnSigns();
+        private void fillBetween() {
+            for (int i = 0; i < count; i++) {
+                int a = looked[i];
+                for (int j = 0; j < count; j++) {
+                    int b = looked[j];
+                    between[i * MAX_LOOKED + j] = ground.unlikeApart(ground.xs[a] - ground.xs[b], ground.ys[a] - ground.ys[b]);
+                }
             }
         }
 
-        private void sumUnlikes(int x, int y) {
+        private void sumToPlaces(int x, int y) {
             for (int i = 0; i < count; i++) {
+                int a = looked[i];
                 int sum = 0;
                 for (int p = 0; p < places; p++) {
-                    sum += ground.unlikeToPlace(looked[i], x + alongX(p), y + alongY(p));
+                    sum += ground.unlikeApart(ground.xs[a] - x - alongX(p), ground.ys[a] - y - alongY(p));
                 }
-                unlikes[i] = sum;
+                toPlaces[i] = sum;
             }
-            unlikeWithin = 0;
+        }
+
+        private void sumWithinPlaces() {
+            withinPlaces = 0;
             for (int p = 0; p < places; p++) {
                 for (int q = 0; q < places; q++) {
-                    int h = ground.far(alongX(p) - alongX(q), alongY(p) - alongY(q));
-                    unlikeWithin += ground.unlikeOf(h);
+                    withinPlaces += ground.unlikeApart(alongX(p) - alongX(q), alongY(p) - alongY(q));
                 }
             }
         }
@@ -687,27 +691,21 @@ public final class OreBlocks {
             return p >> 1;
         }
 
+        // ---- weights
+
         /** Rows for samples that are not there are those of 1 on the diagonal: they change nothing. */
         private void fillTable() {
             for (int i = 0; i < ROWS; i++) {
                 boolean isThere = i + 1 < count;
-                wanted[i] = isThere ? unlikes[0] + places * unlikeToFirst(i + 1) - unlikes[i + 1] : 0;
+                wanted[i] = isThere ? toPlaces[0] + places * between[i + 1] - toPlaces[i + 1] : 0;
                 for (int j = 0; j < ROWS; j++) {
                     if (isThere && j + 1 < count) {
-                        table[i * ROWS + j] = tableEntry(i + 1, j + 1);
+                        table[i * ROWS + j] = between[i + 1] + between[j + 1] - between[(i + 1) * MAX_LOOKED + j + 1];
                     } else {
                         table[i * ROWS + j] = i == j ? 1 : 0;
                     }
                 }
             }
-        }
-
-        private int unlikeToFirst(int i) {
-            return ground.unlikeOfSamples(looked[0], looked[i]);
-        }
-
-        private int tableEntry(int i, int j) {
-            return unlikeToFirst(i) + unlikeToFirst(j) - ground.unlikeOfSamples(looked[i], looked[j]);
         }
 
         private long cofactor(int row, int column) {
@@ -728,6 +726,7 @@ public final class OreBlocks {
             }
         }
 
+        /** For fractions are told, and held against each other, by what is above 0. */
         private void turnSigns() {
             whole = -whole;
             for (int i = 0; i < MAX_LOOKED; i++) {
@@ -775,19 +774,20 @@ public final class OreBlocks {
             return below == 0 ? NONE : gradeAbove() / below;
         }
 
+        /** By the first sample's equation. */
         private long floorAbove() {
-            long floor = unlikes[0] * whole;
+            long floor = toPlaces[0] * whole;
             for (int i = 1; i < count; i++) {
-                floor -= parts[i] * unlikeToFirst(i);
+                floor -= parts[i] * between[i];
             }
             return floor;
         }
 
         /** The sums of UNLIKE are told by how many places there are, so this is by its square. */
         long spreadAbove() {
-            long spread = places * floorAbove() - unlikeWithin * whole;
+            long spread = places * floorAbove() - withinPlaces * whole;
             for (int i = 0; i < count; i++) {
-                spread += parts[i] * unlikes[i];
+                spread += parts[i] * toPlaces[i];
             }
             return spread;
         }

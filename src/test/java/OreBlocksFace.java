@@ -5,7 +5,9 @@ import java.lang.reflect.Modifier;
 import java.nio.file.Files;
 import java.nio.file.Path;
 import java.util.Arrays;
+import java.util.Map;
 import java.util.Set;
+import java.util.TreeMap;
 import java.util.TreeSet;
 import java.util.regex.Matcher;
 import java.util.regex.Pattern;
@@ -112,6 +114,30 @@ public final class OreBlocksFace {
         Set<String> allowed = Set.of("System.arraycopy", "Math.abs", "Math.max", "Math.min", "Math.floorMod", "Integer.MAX_VALUE");
         while (library.find()) due(allowed.contains(library.group()), library.group() + " is in the part of the library that is used");
         checkNothingIsMadeInCalls(code);
+        checkDepth(code);
+    }
+
+    /** Names are enough to follow calls by: no two methods share one. */
+    private static void checkDepth(String code) {
+        Map<String, Set<String>> calls = new TreeMap<>();
+        Matcher method = Pattern.compile("\\n( +)[\\w ]*?\\b(\\w+)\\([^;{}()]*\\) \\{\\n(.*?)\\n\\1\\}", Pattern.DOTALL).matcher(code);
+        while (method.find()) {
+            String name = method.group(2), body = method.group(3);
+            due(!calls.containsKey(name), "one method alone is called " + name);
+            due(body.split("\n").length <= 60, name + " is short");
+            Set<String> called = calls.computeIfAbsent(name, n -> new TreeSet<>());
+            Matcher call = Pattern.compile("\\b(\\w+)\\(").matcher(body);
+            while (call.find()) if (!call.group(1).matches("if|for|switch")) called.add(call.group(1));
+        }
+        due(calls.size() > 60, "methods are found, not " + calls.size());
+        for (String name : calls.keySet()) due(depth(name, calls, 0) <= 8, name + " goes eight deep at most");
+    }
+
+    private static int depth(String name, Map<String, Set<String>> calls, int above) {
+        int deepest = 0;
+        if (above > 20) return 1;
+        for (String called : calls.getOrDefault(name, Set.of())) deepest = Math.max(deepest, depth(called, calls, above + 1));
+        return deepest + 1;
     }
 
     /** Room is one for all calls: what is made is made for a field, or in a constructor's loop. */
