@@ -2,7 +2,7 @@
  * Grades of ore guessed between drilled holes, in exact fractions.
  *
  * <p>The document (../shared/DOC.md) tells the promises; its words in capitals are the names used
- * here. Every row is made once, in the constructor: no call makes an object.
+ * here. Every array is made once, in the constructor: no call makes an object.
  */
 public final class OreBlocks {
     public static final int NONE = -1, UNKNOWN = -1000000001, OUTSIDE = -1000000002, NOT = -1000000003, FULL = -1000000004;
@@ -20,14 +20,17 @@ public final class OreBlocks {
     private static final int MAX_UNDO = 16;
     private static final int IMAGES = 2;
 
-    private final Ground ground = new Ground();
-    private final Estimate estimate = new Estimate(ground);
+    private final Ground ground;
+    private final Estimate estimate;
     private final History history = new History();
     private final Book book = new Book();
     private final Image[] images = new Image[IMAGES];
     private int seed;
 
     public OreBlocks() {
+        Ground bare = new Ground();
+        ground = bare;
+        estimate = new Estimate(bare);
         for (int i = 0; i < IMAGES; i++) {
             images[i] = new Image();
         }

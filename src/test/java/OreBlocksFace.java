@@ -140,13 +140,11 @@ public final class OreBlocksFace {
         return deepest + 1;
     }
 
-    /** Room is one for all calls: what is made is made for a field, or in a constructor's loop. */
+    /** Room is one for all calls: what is made is made for a field, or in a constructor. */
     private static void checkNothingIsMadeInCalls(String code) {
-        for (String line : code.split("\n")) {
-            if (!line.contains("new ")) continue;
-            boolean isField = line.contains("final ") && line.trim().endsWith(";");
-            boolean isConstructorLoop = line.contains("images[i] = new Image()") || line.contains("ahead[i] = new Ground()");
-            due(isField || isConstructorLoop, "nothing is made in a call: " + line.trim());
+        String calls = code.replaceAll("(?s)\\n    public OreBlocks\\(\\) \\{.*?\\n    \\}", "").replaceAll("(?s)\\n        History\\(\\) \\{.*?\\n        \\}", "");
+        for (String line : calls.split("\n")) {
+            if (line.contains("new ")) due(line.trim().matches("(private )?final .*;"), "nothing is made in a call: " + line.trim());
         }
     }
 }
