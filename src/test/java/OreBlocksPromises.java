@@ -63,32 +63,6 @@ public final class OreBlocksPromises {
         for (int i = 0; i < want.length; i++) due(o.told(i), want[i]);
     }
 
-    /** Samples 0 at 10, 10 (100), 1 at 12, 10 (200), 2 at 10, 13 (300). */
-    private static OreBlocks three() {
-        OreBlocks o = new OreBlocks();
-        o.sample(10, 10, 100);
-        o.sample(12, 10, 200);
-        o.sample(10, 13, 300);
-        return o;
-    }
-
-    /** Ten samples in a row of y 0, x 0, 3, .. 27, the grade ten times the number. */
-    private static OreBlocks ten() {
-        OreBlocks o = new OreBlocks();
-        for (int i = 0; i < 10; i++) o.sample(3 * i, 0, 10 * i);
-        return o;
-    }
-
-    /** The corners of a square of side 2: by sums and one straight piece they have no guess. */
-    private static OreBlocks square() {
-        OreBlocks o = new OreBlocks();
-        o.sample(4, 4, 10);
-        o.sample(4, 6, 20);
-        o.sample(6, 4, 30);
-        o.sample(6, 6, 40);
-        return o;
-    }
-
     private static void newObject() {
         promise(1);
         OreBlocks o = new OreBlocks();
@@ -103,7 +77,7 @@ public final class OreBlocksPromises {
 
     private static void told() {
         promise(2);
-        OreBlocks o = three();
+        OreBlocks o = Grounds.three();
         o.metric(1);
         o.pieces(3, 4, 6, 2, 15);
         o.search(2, 1, 30);
@@ -141,7 +115,7 @@ public final class OreBlocksPromises {
 
     private static void at() {
         promise(3);
-        OreBlocks o = three();
+        OreBlocks o = Grounds.three();
         due(o.at(1, 0), 12);
         due(o.at(1, 1), 10);
         due(o.at(1, 2), 200);
@@ -176,7 +150,7 @@ public final class OreBlocksPromises {
 
     private static void place() {
         promise(5);
-        OreBlocks o = three();
+        OreBlocks o = Grounds.three();
         due(o.place(12, 10, 0), 1);
         due(o.place(10, 12, 0), NONE);
         due(o.place(11, 11, 1), 3);
@@ -198,7 +172,7 @@ public final class OreBlocksPromises {
 
     private static void placeWithoutGuess() {
         promise(5);
-        OreBlocks o = square();
+        OreBlocks o = Grounds.square();
         o.pieces(0, 1, 10, 1, 20);
         due(o.place(5, 5, 1), 4);
         due(o.place(5, 5, 2), 15);
@@ -231,7 +205,7 @@ public final class OreBlocksPromises {
 
     private static void looked() {
         promise(6);
-        OreBlocks o = three();
+        OreBlocks o = Grounds.three();
         due(o.looked(11, 12, 0), 2);
         due(o.looked(11, 12, 1), 0);
         due(o.looked(11, 12, 2), 1);
@@ -297,7 +271,7 @@ public final class OreBlocksPromises {
         long[] own = {301, 1, 0, 1, 0, 1};
         for (int what = 0; what < 6; what++) due(o.guess(13, 10, what), own[what]);
         // By a floor below 0: four around, each 1 far, all 2 apart.
-        o = square();
+        o = Grounds.square();
         o.metric(1);
         o.pieces(0, 1, 2, 0, 2);
         long[] four = {25, 1, 1, 2, -1, 2};
@@ -308,7 +282,7 @@ public final class OreBlocksPromises {
 
     private static void weight() {
         promise(8);
-        OreBlocks o = three();
+        OreBlocks o = Grounds.three();
         long[] want = {1, 6, 1, 2, 1, 3};
         for (int i = 0; i < 3; i++) {
             due(o.weight(11, 11, i, 0), want[2 * i]);
@@ -347,7 +321,7 @@ public final class OreBlocksPromises {
         for (int what = 0; what < 4; what++) due(o.block(5, 5, what), greater[what]);
         due(o.block(30, 30, 0), 100);
         due(o.block(0, 0, 0), 100);
-        o = square();
+        o = Grounds.square();
         o.metric(1);
         o.pieces(0, 1, 2, 0, 2);
         long[] four = {35, 2, 7, 32};
@@ -435,7 +409,7 @@ public final class OreBlocksPromises {
         due(o.told(14), 2);
         int[][] out = {{-1, 0, 0}, {32, 0, 0}, {0, -1, 0}, {0, 32, 0}, {1, 0, -1}, {1, 0, 1000}, {0, 0, 1000}, {GREATEST, 0, 0}, {0, LEAST, 0}, {1, 0, GREATEST}};
         for (int[] a : out) due(o.sample(a[0], a[1], a[2]), OUTSIDE);
-        o = ten();
+        o = Grounds.ten();
         due(o.told(0), 10);
         due(o.sample(1, 1, 1), FULL);
         due(o.sample(0, 0, 1), FULL);
@@ -446,7 +420,7 @@ public final class OreBlocksPromises {
 
     private static void take() {
         promise(13);
-        OreBlocks o = three();
+        OreBlocks o = Grounds.three();
         due(o.take(3), UNKNOWN);
         due(o.take(-1), UNKNOWN);
         due(o.take(LEAST), UNKNOWN);
@@ -460,7 +434,7 @@ public final class OreBlocksPromises {
         due(o.take(0), 0);
         due(o.take(0), UNKNOWN);
         due(o.sample(10, 10, 7), 0);
-        o = ten();
+        o = Grounds.ten();
         due(o.take(4), 9);
         due(o.at(3, 2), 30);
         due(o.at(4, 2), 50);
@@ -470,7 +444,7 @@ public final class OreBlocksPromises {
 
     private static void grade() {
         promise(14);
-        OreBlocks o = three();
+        OreBlocks o = Grounds.three();
         due(o.grade(1, 999), 200);
         due(o.grade(1, 0), 999);
         due(o.at(1, 2), 0);
@@ -582,7 +556,7 @@ public final class OreBlocksPromises {
 
     private static void undo() {
         promise(19);
-        OreBlocks o = three();
+        OreBlocks o = Grounds.three();
         o.take(1);
         o.grade(0, 7);
         o.pieces(9, 9, 9, 9, 9);
@@ -610,7 +584,7 @@ public final class OreBlocksPromises {
 
     private static void undoOfSixteen() {
         promise(19);
-        OreBlocks o = three();
+        OreBlocks o = Grounds.three();
         for (int g = 1; g <= 20; g++) o.grade(0, g);
         due(o.told(14), 16);
         due(o.undo(16), 0);
@@ -664,7 +638,7 @@ public final class OreBlocksPromises {
 
     private static void wrongEntries() {
         promise(2);
-        OreBlocks o = three();
+        OreBlocks o = Grounds.three();
         o.write(11, 11, 216);
         due(o.told(13), NONE);
         o.write(10, 10, 100);
@@ -728,7 +702,7 @@ public final class OreBlocksPromises {
 
     private static void keep() {
         promise(23);
-        OreBlocks o = three();
+        OreBlocks o = Grounds.three();
         due(o.keep(2), UNKNOWN);
         due(o.keep(-1), UNKNOWN);
         due(o.keep(LEAST), UNKNOWN);
@@ -751,7 +725,7 @@ public final class OreBlocksPromises {
 
     private static void goBack() {
         promise(24);
-        OreBlocks o = three();
+        OreBlocks o = Grounds.three();
         due(o.goBack(0), NOT);
         due(o.goBack(2), UNKNOWN);
         due(o.goBack(-1), UNKNOWN);
@@ -789,7 +763,7 @@ public final class OreBlocksPromises {
 
     private static void refusalsChangeNothing() {
         promise(0);
-        OreBlocks o = ten();
+        OreBlocks o = Grounds.ten();
         o.keep(0);
         o.write(3, 3, 3);
         o.grade(2, 5);
