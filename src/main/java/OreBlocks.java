@@ -19,6 +19,8 @@ public final class OreBlocks {
     private static final int MAX_BOOK = 20;
     private static final int MAX_UNDO = 16;
     private static final int IMAGES = 2;
+    /** 2 to the 31, less 1: what is left over by 2 to the 31 are these bits. */
+    private static final int SEED_BITS = 2147483647;
 
     private final Ground ground;
     private final Estimate estimate;
@@ -397,7 +399,7 @@ public final class OreBlocks {
     // ---- draws and the book
 
     private int nextDraw() {
-        seed = (int) ((seed * 1103515245L + 12345L) & Integer.MAX_VALUE);
+        seed = (int) ((seed * 1103515245L + 12345L) & SEED_BITS);
         return seed / 65536;
     }
 

@@ -255,6 +255,26 @@ public final class OreBlocksPromiseEdges extends Sentences {
     }
 
     @Sentence(promise = 5, value = "5 those whose WEIGHTS are below 0 (a SET; no GUESS: 0)")
+    static void theNearestMayHaveAWeightBelow0() {
+        OreBlocks o = Grounds.hidden();
+        due(o.looked(7, 9, 0), 0);
+        due(o.place(7, 9, 5), 1);
+    }
+
+    @Sentence(promise = 5, value = "5 those whose WEIGHTS are below 0 (a SET; no GUESS: 0)")
+    static void aSmallWeightMayBeBelow0() {
+        OreBlocks o = new OreBlocks();
+        o.metric(1);
+        o.pieces(0, 1, 2, 0, 4);
+        o.sample(5, 7, 0);
+        o.sample(6, 5, 0);
+        o.sample(6, 4, 0);
+        // Apart 2, 2 and 1, and 2, 1 and 2 from the place: 2, 6 and -1 by 7.
+        dueEach(what -> o.weight(7, 6, 2, what), -1, 7);
+        due(o.place(7, 6, 5), 4);
+    }
+
+    @Sentence(promise = 5, value = "5 those whose WEIGHTS are below 0 (a SET; no GUESS: 0)")
     static void whereThereIsNoGuessNoWeightIsBelow0() {
         OreBlocks o = new OreBlocks();
         due(o.place(5, 5, 5), 0);

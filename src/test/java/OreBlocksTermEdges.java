@@ -586,6 +586,16 @@ public final class OreBlocksTermEdges extends Sentences {
         dueEach(what -> o.guess(0, 0, what), 999, 1, 34, 1, 17, 1);
     }
 
+    @Sentence("for each SAMPLE i the sum of all WEIGHTS j times UNLIKE of (FAR of i and j), and the FLOOR, is UNLIKE of (FAR of i and the PLACE).")
+    static void fourHaveFourWeights() {
+        OreBlocks o = Grounds.hidden();
+        dueEach(i -> o.looked(7, 9, i), 0, 2, 3, 1);
+        dueEach(i -> o.weight(7, 9, i, 0), -1, 3, 1, 1);
+        dueEach(i -> o.weight(7, 9, i, 1), 14, 7, 2, 7);
+        // -1, 120, 210 and 20; steps of 16 by 14, less 3 by 14, each 5; -3 by 14, each 5.
+        dueEach(what -> o.guess(7, 9, what), 349, 1, 65, 14, -15, 14);
+    }
+
     @Sentence("There is none (NONE), if none is LOOKED AT")
     static void noneLookedAtMakesNoGuess() {
         OreBlocks o = new OreBlocks();
@@ -831,9 +841,10 @@ public final class OreBlocksTermEdges extends Sentences {
         OreBlocks o = Grounds.three();
         // 650 by 3.
         dueBookValue(o, 11, 11, 216);
-        // -2000, -140, -572 by 143; 146853 by 143.
+        // -2000, -140, -144, -572 by 143; 146853 by 143.
         dueBookValue(Grounds.behind(0, 0, 500), 10, 11, -13);
         dueBookValue(Grounds.behind(0, 0, 35), 10, 11, 0);
+        dueBookValue(Grounds.behind(0, 0, 36), 10, 11, -1);
         dueBookValue(Grounds.behind(0, 0, 143), 10, 11, -4);
         dueBookValue(Grounds.behind(999, 999, 0), 10, 11, 1026);
         dueBookValue(Grounds.one(0, 0, 0), 10, 11, 0);

@@ -50,6 +50,21 @@ final class Grounds {
         return o;
     }
 
+    /**
+     * Seen from 7, 9 the nearest, number 0, is hidden by the others: with 5 by step the weights of
+     * 0, 2, 3 and 1 are -1, 6, 7 and 2 by 14.
+     */
+    static OreBlocks hidden() {
+        OreBlocks o = new OreBlocks();
+        o.metric(1);
+        o.pieces(0, 5, 6, 3, 16);
+        o.sample(7, 8, 14);
+        o.sample(5, 10, 140);
+        o.sample(6, 8, 280);
+        o.sample(8, 9, 420);
+        return o;
+    }
+
     /** Ten samples, a book of twenty, image 0 kept but not image 1, two deeds since, a seed. */
     static OreBlocks brimful() {
         OreBlocks o = ten();
