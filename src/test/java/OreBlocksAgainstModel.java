@@ -40,49 +40,6 @@ public final class OreBlocksAgainstModel {
         if (wrong != 0) System.exit(1);
     }
 
-    /** A fraction in lowest terms, below 1 at least. */
-    private record Frac(BigInteger above, BigInteger below) {
-        static final Frac ZERO = of(0), ONE = of(1);
-
-        static Frac of(long n) {
-            return new Frac(BigInteger.valueOf(n), BigInteger.ONE);
-        }
-
-        static Frac of(BigInteger a, BigInteger b) {
-            BigInteger g = a.gcd(b);
-            if (b.signum() < 0) g = g.negate();
-            return new Frac(a.divide(g), b.divide(g));
-        }
-
-        Frac plus(Frac o) {
-            return of(above.multiply(o.below).add(o.above.multiply(below)), below.multiply(o.below));
-        }
-
-        Frac minus(Frac o) {
-            return plus(new Frac(o.above.negate(), o.below));
-        }
-
-        Frac times(Frac o) {
-            return of(above.multiply(o.above), below.multiply(o.below));
-        }
-
-        Frac by(Frac o) {
-            return of(above.multiply(o.below), below.multiply(o.above));
-        }
-
-        int compare(Frac o) {
-            return above.multiply(o.below).compareTo(o.above.multiply(below));
-        }
-
-        Frac abs() {
-            return new Frac(above.abs(), below);
-        }
-
-        long part(int what) {
-            return (what == 0 ? above : below).longValueExact();
-        }
-    }
-
     private record Sample(int x, int y, int g) { }
 
     private record Pieces(int nugget, int steep, int knot, int flat, int range) { }
@@ -219,7 +176,7 @@ public final class OreBlocksAgainstModel {
             int n = t.length;
             for (int c = 0; c < n; c++) {
                 int pivot = -1;
-                for (int r = c; r < n; r++) if (t[r][c].above.signum() != 0) pivot = r;
+                for (int r = c; r < n; r++) if (t[r][c].above().signum() != 0) pivot = r;
                 if (pivot < 0) return null;
                 Frac[] swap = t[c];
                 t[c] = t[pivot];
@@ -323,7 +280,7 @@ public final class OreBlocksAgainstModel {
 
         BigInteger bookValue(int x, int y) {
             Guess g = guess(x, y);
-            return g == null ? BigInteger.ONE.negate() : g.grade.above.divide(g.grade.below);
+            return g == null ? BigInteger.ONE.negate() : g.grade.above().divide(g.grade.below());
         }
 
         int wrongEntry() {
@@ -373,7 +330,7 @@ public final class OreBlocksAgainstModel {
         int below(Guess g, List<Integer> numbers) {
             int set = 0;
             if (g == null) return 0;
-            for (int i = 0; i < numbers.size(); i++) if (g.weights[i].above.signum() < 0) set |= 1 << numbers.get(i);
+            for (int i = 0; i < numbers.size(); i++) if (g.weights[i].above().signum() < 0) set |= 1 << numbers.get(i);
             if (set != 0) see("weight below 0");
             return set;
         }
@@ -388,7 +345,7 @@ public final class OreBlocksAgainstModel {
             if (noPlace(x, y) || out(what, 0, 5)) return OreBlocks.BEYOND;
             Guess g = guess(x, y);
             if (g == null) return OreBlocks.NOTHING;
-            if (g.spread.above.signum() < 0) see("spread below 0");
+            if (g.spread.above().signum() < 0) see("spread below 0");
             Frac f = what < 2 ? g.grade : what < 4 ? g.spread : g.floor;
             return f.part(what % 2);
         }

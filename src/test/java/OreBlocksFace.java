@@ -35,6 +35,7 @@ public final class OreBlocksFace {
         checkMethods();
         checkConstants();
         checkNested();
+        checkDocumentsFace(Files.readString(Path.of("../shared/DOC.md")), Files.readString(Path.of("src/main/java/OreBlocks.java")));
         checkSource(Files.readString(Path.of("src/main/java/OreBlocks.java")));
         System.out.println(wrong == 0 ? "the face is as due" : wrong + " wrong");
         if (wrong != 0) System.exit(1);
@@ -100,6 +101,24 @@ public final class OreBlocksFace {
                 due(!isPublicName(m.getName()), m + " is not called as a public one");
             }
         }
+    }
+
+    /** Each line of the document's face stands in the source, by the names of its parameters too, in its order. */
+    private static void checkDocumentsFace(String document, String source) {
+        Matcher face = Pattern.compile("```java\\n(.*?)```", Pattern.DOTALL).matcher(document);
+        due(face.find(), "the document tells a face");
+        int from = 0;
+        int lines = 0;
+        for (String line : face.group(1).split("\n")) {
+            String told = line.trim();
+            if (told.equals("}")) continue;
+            String want = told.endsWith(");") ? told.substring(0, told.length() - 1) + " {" : told;
+            int found = source.indexOf(want, from);
+            due(found >= 0, "in its order the source says: " + want);
+            from = Math.max(from, found);
+            lines++;
+        }
+        due(lines == 1 + 2 + 1 + METHODS.length, "the face is the class, two lines of constants, the constructor, the methods, not " + lines + " lines");
     }
 
     private static void checkSource(String source) {

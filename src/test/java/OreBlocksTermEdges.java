@@ -370,7 +370,7 @@ public final class OreBlocksTermEdges extends Sentences {
 
     // ---- section 1: pieces
 
-    @Sentence("NUGGET (0 .. 9), STEEP (1 .. 9), KNOT (1 .. 10)")
+    @Sentence("PIECES: NUGGET (0 .. 9), STEEP (1 .. 9), KNOT (1 .. 10)")
     static void nuggetSteepAndKnotHaveBounds() {
         OreBlocks o = new OreBlocks();
         dueBounds(v -> o.pieces(v, 4, 6, 2, 12), 0, 9, OUTSIDE);
@@ -414,7 +414,7 @@ public final class OreBlocksTermEdges extends Sentences {
         due(o.unlike(62), 10);
     }
 
-    @Sentence("STEEP times h or KNOT, whichever is less")
+    @Sentence("and STEEP times h or KNOT, whichever is less")
     static void theSteepPieceEndsAtTheKnot() {
         OreBlocks o = new OreBlocks();
         o.pieces(0, 3, 4, 0, 20);
@@ -425,7 +425,7 @@ public final class OreBlocksTermEdges extends Sentences {
         dueEach(h -> o.unlike(9 + h), 81, 90, 90);
     }
 
-    @Sentence("if h is more than KNOT, FLAT times (h or RANGE, whichever is less, less KNOT)")
+    @Sentence("and, if h is more than KNOT, FLAT times (h or RANGE, whichever is less, less KNOT)")
     static void theFlatPieceGoesFromKnotToRange() {
         OreBlocks o = new OreBlocks();
         o.pieces(1, 3, 4, 2, 7);
@@ -435,7 +435,7 @@ public final class OreBlocksTermEdges extends Sentences {
         dueEach(h -> o.unlike(19 + h), 180, 189, 189);
     }
 
-    @Sentence("if h is more than KNOT, FLAT times (h or RANGE, whichever is less, less KNOT)")
+    @Sentence("and, if h is more than KNOT, FLAT times (h or RANGE, whichever is less, less KNOT)")
     static void thereIsNoFlatPieceWhereRangeIsKnot() {
         OreBlocks o = new OreBlocks();
         o.pieces(1, 3, 4, 3, 4);
@@ -445,7 +445,7 @@ public final class OreBlocksTermEdges extends Sentences {
 
     // ---- section 1: search
 
-    @Sentence("MOST (1 .. 4; 4 at first)")
+    @Sentence("SEARCH: MOST (1 .. 4; 4 at first)")
     static void mostIsOf1To4() {
         OreBlocks o = Grounds.ten();
         due(o.told(7), 4);
@@ -480,7 +480,7 @@ public final class OreBlocksTermEdges extends Sentences {
         due(o.place(11, 11, 1), 0);
     }
 
-    @Sentence("0, if it is no less in x, nor in y")
+    @Sentence("QUARTER of a SAMPLE, seen from a PLACE: 0, if it is no less in x, nor in y")
     static void quarter0HasThePlaceAndBothItsSides() {
         dueInQuarter(10, 10, 0);
         dueInQuarter(15, 10, 0);
@@ -521,7 +521,7 @@ public final class OreBlocksTermEdges extends Sentences {
         }
     }
 
-    @Sentence("SAMPLES that are FAR no more than REACH")
+    @Sentence("LOOKED AT from a PLACE: SAMPLES that are FAR no more than REACH")
     static void asFarAsReachIsLookedAtAndOneMoreIsNot() {
         OreBlocks o = Grounds.one(10, 10, 5);
         o.search(4, 4, 7);
@@ -655,7 +655,7 @@ public final class OreBlocksTermEdges extends Sentences {
         dueEach(what -> o.weight(10, 13, 0, what), 1, 1);
     }
 
-    @Sentence("for each k from 1 to how many are LOOKED AT, of the first k of them")
+    @Sentence("SOUND: for each k from 1 to how many are LOOKED AT, of the first k of them")
     static void theFourthMayBeUnsoundWhereTheFirstThreeAreNot() {
         OreBlocks o = Grounds.square();
         o.pieces(0, 1, 10, 1, 20);
@@ -885,7 +885,7 @@ public final class OreBlocksTermEdges extends Sentences {
 
     // ---- section 3: draws
 
-    @Sentence("THE SEED (0 at first: each DRAW it becomes it times 1103515245 and 12345, left over by 2 to the 31")
+    @Sentence("BY DRAWS: THE SEED (0 at first: each DRAW it becomes it times 1103515245 and 12345, left over by 2 to the 31")
     static void theSeedWrapsAround() {
         for (int v : new int[] {0, 1, 1073741823, 1073741824, GREATEST - 1, GREATEST}) {
             OreBlocks o = new OreBlocks();
@@ -896,7 +896,7 @@ public final class OreBlocksTermEdges extends Sentences {
         }
     }
 
-    @Sentence("THE SEED (0 at first: each DRAW it becomes it times 1103515245 and 12345, left over by 2 to the 31")
+    @Sentence("BY DRAWS: THE SEED (0 at first: each DRAW it becomes it times 1103515245 and 12345, left over by 2 to the 31")
     static void theSeedComesTo0AndToTheGreatest() {
         OreBlocks o = new OreBlocks();
         o.seed(80477501);

@@ -72,7 +72,7 @@ abstract class Sentences {
         return found;
     }
 
-    private static String[] readParts() throws IOException {
+    static String[] readParts() throws IOException {
         String[] parts = Files.readString(DOCUMENT).replaceAll("\\s+", " ").split("## (Promise \\d+:|Not promised)");
         if (parts.length != 26) throw new IllegalStateException("the document has " + (parts.length - 2) + " promises, not 24");
         return parts;
